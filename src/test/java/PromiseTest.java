@@ -172,7 +172,7 @@ public final class PromiseTest {
             "sum fixed 5", "count fixed 99", "max fixed 1", "sum session 10", "sum sliding 8 4",
             "sum sliding 4 8", "sum if < 5 fixed 5", "sum if = 0 fixed 5", "sum if > -0 fixed 5",
             "sum if < -99 join fixed 5", "sum join session 3", "sum fixed 5 late 0", "sum fixed 5 late 99",
-            "sum fixed 5 anew", "sum fixed 5 diff", "sum fixed 5 back", "sum fixed 5 late 7 back",
+            "max if > 9 session 5", "max if > 9 sliding 9 9", "sum fixed 5 anew", "sum fixed 5 diff", "sum fixed 5 back", "sum fixed 5 late 7 back",
             "sum   if  =  -1   join  sliding  9   3  late  1  diff   ", "sum fixed 5 ", "sum fixed 5 late 0 "};
         for (String text : whole) {
             due("'" + text + "'", faultOf(text), -1);
@@ -309,8 +309,10 @@ public final class PromiseTest {
         due("a lesser lateness drops none by itself", x.windows(), 2);
         due("but is too late", feed(x, 0, 0, 4, 1), 0);
         due("too late", x.tooLate(), 1);
+        feed(x, 0, 2, 20, 1);
+        due("the same watermark has not grown", x.windows(), 3);
         feed(x, 0, 1, 21, 1);
-        due("dropped with the watermark", x.windows(), 1);
+        due("dropped with the watermark", x.windows(), 2);
     }
 
     private static void promise6() {
@@ -861,6 +863,30 @@ public final class PromiseTest {
         due("read again by another query", x.totalAnew(1, 5), 206);
         due("the same by the results", x.total(1, 5), 206);
         totalsAnewOfMaxAndCount();
+        totalsAnewAtTheEdges();
+    }
+
+    private static void totalsAnewAtTheEdges() {
+        Streamloom x = single("sum sliding 10 5 late 5");
+        feed(x, 0, 0, 2, 1);
+        feed(x, 0, 0, 5, 2);
+        feed(x, 0, 0, 15, 4);
+        due("from its beginning on", x.totalAnew(0, 5), 2);
+        due("up to its end", x.totalAnew(0, 0), 3);
+        due("none begins below 0", x.totalAnew(0, -5), 0);
+        feed(x, 0, 0, 6, 8);
+        due("too late at its end and the lateness", x.totalAnew(0, 0), 3);
+        due("not for the next one", x.totalAnew(0, 5), 10);
+        x.barrier();
+        feed(x, 0, 0, 7, 16);
+        due("one more", x.totalAnew(0, 5), 26);
+        x.complete(0);
+        x.crash();
+        due("not read any more", x.totalAnew(0, 5), 10);
+        Streamloom y = single("sum sliding 2 1");
+        feed(y, 0, 0, 1, 1);
+        feed(y, 0, 0, 2, 2);
+        due("a slide of 1", y.totalAnew(0, 0), 1);
     }
 
     private static void totalsAnewOfMaxAndCount() {
@@ -996,6 +1022,24 @@ public final class PromiseTest {
         due("windows", x.windows(), 0);
         due("nothing was read", x.idle(0, false), -1);
         resultsAgainAfterACrash();
+        manyWindowsAfterACrash();
+    }
+
+    private static void manyWindowsAfterACrash() {
+        Streamloom x = single("sum sliding 4 1");
+        x.bound(0, 99);
+        for (int time = 0; time < 99; time++) {
+            feed(x, 0, time % 8, time, time);
+        }
+        int count = x.windows();
+        x.barrier();
+        x.complete(0);
+        feed(x, 0, 0, 999, 1);
+        due("dropped", x.windows(), 4);
+        due("gone", x.crash(), count);
+        due("windows", x.windows(), count);
+        window(x, 0, 0, 0, 4, 0, 0);
+        window(x, count - 1, 7, 95, 99, 95, 0);
     }
 
     private static void resultsAgainAfterACrash() {
