@@ -31,12 +31,17 @@ final class Checks {
         try {
             fail(what + " answered " + call.make() + ", due is " + want.getSimpleName());
         } catch (RuntimeException e) {
-            if (e.getClass() == want) {
+            if (e.getClass() == want && isThrownByTheProgram(e)) {
                 passed++;
             } else {
                 fail(what + " threw " + e.getClass().getSimpleName() + ", due is " + want.getSimpleName());
             }
         }
+    }
+
+    /** The machine's own exceptions are of other classes, and the library's begin in the library. */
+    private static boolean isThrownByTheProgram(RuntimeException e) {
+        return e.getStackTrace().length > 0 && e.getStackTrace()[0].getClassName().startsWith("Streamloom");
     }
 
     boolean hasFailed() {

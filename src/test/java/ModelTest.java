@@ -1,9 +1,14 @@
 import java.util.Random;
 
-/** Long runs of calls, each made on the program and on the model; their answers must be the same. */
+/**
+ * Runs of the calls that an object is good for, each made on the program and on the model; their answers must be the
+ * same.
+ */
 public final class ModelTest {
-    private static final int RUNS = 400;
-    private static final int CALLS = 400;
+    private static final int RUNS = 6000;
+    private static final int CALLS = 512;
+    private static final int CALLS_TO_LOOK = 120;
+    private static final int TEXTS = 6;
     private static final String[] WORDS = {"sum", "count", "max", "if", "<", "=", ">", "0", "-0", "5", "-12", "99",
         "join", "fixed", "sliding", "session", "late", "anew", "diff", "back", "8 4", "00", "100", "-", "x", "fix"};
 
@@ -13,6 +18,7 @@ public final class ModelTest {
     private final Model model = new Model();
     private final int spread;
     private int clock;
+    private int calls;
     private String call = "";
 
     private ModelTest(Checks checks, long seed) {
@@ -26,10 +32,11 @@ public final class ModelTest {
         for (int seed = 0; seed < RUNS && !checks.hasFailed(); seed++) {
             ModelTest test = new ModelTest(checks, seed);
             test.open();
-            for (int i = 0; i < CALLS && !checks.hasFailed(); i++) {
+            while (test.calls < CALLS - CALLS_TO_LOOK && !checks.hasFailed()) {
                 test.change();
-                test.look();
+                test.ask();
             }
+            test.look();
             if (checks.hasFailed()) {
                 System.out.println("in run " + seed);
             }
@@ -50,6 +57,10 @@ public final class ModelTest {
     }
 
     private void same(String name, Checks.Call due, Checks.Call got) {
+        if (calls >= CALLS) {
+            return;
+        }
+        calls++;
         checks.due("behind " + call + ": " + name, answer(got), answer(due));
     }
 
@@ -71,7 +82,7 @@ public final class ModelTest {
         if (oneOf(60)) {
             return oneOf(2) ? least - 1 : most + 1;
         }
-        return least + below(most - least + 1);
+        return least + below(Math.max(1, most - least + 1));
     }
 
     private String shape() {
@@ -179,6 +190,32 @@ public final class ModelTest {
         }
     }
 
+    /** One question of those that look() asks. */
+    private void ask() {
+        int key = oneOf(2) ? below(2) : around(0, 7);
+        int begin = clock - below(60) + 5;
+        int place = oneOf(2) ? model.results() - 1 - below(3) : around(0, model.results() - 1);
+        int window = around(0, Math.max(0, model.windows() - 1));
+        int kind = around(0, 4);
+        int number = around(0, 3);
+        switch (below(10)) {
+            case 0: same("watermark", model::watermark, program::watermark); break;
+            case 1: same("tooLate", model::tooLate, program::tooLate); break;
+            case 2: same("windows", model::windows, program::windows); break;
+            case 3: same("results", model::results, program::results); break;
+            case 4: same("committed", model::committed, program::committed); break;
+            case 5: same("load " + number, () -> model.load(number), () -> program.load(number)); break;
+            case 6: same("total " + key + " " + begin, () -> model.total(key, begin),
+                    () -> program.total(key, begin)); break;
+            case 7: same("totalAnew " + key + " " + begin, () -> model.totalAnew(key, begin),
+                    () -> program.totalAnew(key, begin)); break;
+            case 8: same("window " + window + " " + kind, () -> model.window(window, kind),
+                    () -> program.window(window, kind)); break;
+            default: same("result " + place + " " + kind, () -> model.result(place, kind),
+                    () -> program.result(place, kind)); break;
+        }
+    }
+
     private void look() {
         same("watermark", model::watermark, program::watermark);
         same("tooLate", model::tooLate, program::tooLate);
@@ -215,7 +252,7 @@ public final class ModelTest {
 
     /** Texts that are nearly queries: a word or a character of one is left out, doubled or another one. */
     private void texts() {
-        for (int i = 0; i < 20; i++) {
+        for (int i = 0; i < TEXTS; i++) {
             StringBuilder text = new StringBuilder(query(WORDS[below(3)], shape(), below(100)));
             int place = below(text.length());
             switch (below(7)) {

@@ -1,16 +1,7 @@
-import java.util.NoSuchElementException;
-
 /** A test for each promise, with answers worked out by hand from the document. */
-public final class PromiseTest {
-    private static final Class<IndexOutOfBoundsException> INDEX = IndexOutOfBoundsException.class;
-    private static final Class<IllegalArgumentException> ARGUMENT = IllegalArgumentException.class;
-    private static final Class<IllegalStateException> STATE = IllegalStateException.class;
-    private static final Class<NoSuchElementException> ELEMENT = NoSuchElementException.class;
-
-    private static final Checks checks = new Checks("PromiseTest");
-    private static String about = "";
-
+public final class PromiseTest extends LoomChecks {
     public static void main(String[] args) {
+        begin("PromiseTest");
         constants();
         promise1();
         promise2();
@@ -43,68 +34,7 @@ public final class PromiseTest {
         promise24();
         promise25();
         promise26();
-        checks.end();
-    }
-
-    // ---- what the tests share
-
-    private static void due(String what, long got, long want) {
-        checks.due(about + ": " + what, got, want);
-    }
-
-    private static void throwsDue(String what, Class<? extends RuntimeException> want, Checks.Call call) {
-        checks.throwsDue(about + ": " + what, want, call);
-    }
-
-    private static void type(Streamloom x, String text) {
-        for (int i = 0; i < text.length(); i++) {
-            x.type(text.charAt(i));
-        }
-    }
-
-    private static int faultOf(String text) {
-        Streamloom x = new Streamloom();
-        type(x, text);
-        return x.fault();
-    }
-
-    private static Streamloom planned(String query) {
-        Streamloom x = new Streamloom();
-        plan(x, query, false);
-        return x;
-    }
-
-    /** With partition 0 alone, the others being idle. */
-    private static Streamloom single(String query) {
-        Streamloom x = planned(query);
-        x.idle(1, true);
-        x.idle(2, true);
-        return x;
-    }
-
-    private static int plan(Streamloom x, String query, boolean isKept) {
-        x.wipe();
-        type(x, query);
-        return x.plan(isKept);
-    }
-
-    private static int feed(Streamloom x, int partition, int key, int time, int value) {
-        x.event(partition, key, time, value);
-        return x.step(partition);
-    }
-
-    private static void window(Streamloom x, int window, int key, int begin, int end, int total, int isTold) {
-        int[] want = {key, begin, end, total, isTold};
-        for (int what = 0; what < 5; what++) {
-            due("window(" + window + ", " + what + ")", x.window(window, what), want[what]);
-        }
-    }
-
-    private static void result(Streamloom x, int result, int key, int begin, int end, int value, int kind) {
-        int[] want = {key, begin, end, value, kind};
-        for (int what = 0; what < 5; what++) {
-            due("result(" + result + ", " + what + ")", x.result(result, what), want[what]);
-        }
+        end();
     }
 
     // ---- the promises
@@ -172,7 +102,8 @@ public final class PromiseTest {
             "sum fixed 5", "count fixed 99", "max fixed 1", "sum session 10", "sum sliding 8 4",
             "sum sliding 4 8", "sum if < 5 fixed 5", "sum if = 0 fixed 5", "sum if > -0 fixed 5",
             "sum if < -99 join fixed 5", "sum join session 3", "sum fixed 5 late 0", "sum fixed 5 late 99",
-            "max if > 9 session 5", "max if > 9 sliding 9 9", "sum fixed 5 anew", "sum fixed 5 diff", "sum fixed 5 back", "sum fixed 5 late 7 back",
+            "max if > 9 session 5", "max if > 9 sliding 9 9", "sum fixed 5 anew", "sum fixed 5 diff",
+            "sum fixed 5 back", "sum fixed 5 late 7 back",
             "sum   if  =  -1   join  sliding  9   3  late  1  diff   ", "sum fixed 5 ", "sum fixed 5 late 0 "};
         for (String text : whole) {
             due("'" + text + "'", faultOf(text), -1);
