@@ -452,6 +452,16 @@ public final class ResultEdgesTest extends LoomChecks {
         for (int i = 0; i < begins.length; i++) {
             due("at " + begins[i], x.totalAnew(0, begins[i]), wanted[i]);
         }
+        Streamloom z = single("count sliding 4 1 late 99");
+        for (int time = 0; time < 4; time++) {
+            feed(z, 0, 0, time, 1);
+        }
+        feed(z, 0, 7, 99, 0);
+        int[] ofOne = {-4, -3, -2, -1, 0, 1, 2, 3, 4};
+        int[] counts = {0, 0, 0, 0, 4, 3, 2, 1, 0};
+        for (int i = 0; i < ofOne.length; i++) {
+            due("with a slide of 1 at " + ofOne[i], z.totalAnew(0, ofOne[i]), counts[i]);
+        }
         Streamloom y = single("count fixed 1");
         feed(y, 0, 0, 0, 1);
         feed(y, 0, 0, 1, 1);

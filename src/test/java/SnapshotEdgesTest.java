@@ -23,6 +23,7 @@ public final class SnapshotEdgesTest extends LoomChecks {
         crashUnderAKeptPlan();
         crashOfSessions();
         snapshotsAreApart();
+        snapshotsOfManyWindows();
         committedStay();
         rangesOfWorkers();
         keysOfWorkers();
@@ -496,6 +497,28 @@ public final class SnapshotEdgesTest extends LoomChecks {
             x.complete(5);
             x.crash();
             due("state of the next one", lookAtState(x), state);
+        }
+    }
+
+    private static void snapshotsOfManyWindows() {
+        about = "all windows, however many";
+        for (int count = 0; count <= 100; count++) {
+            Streamloom x = single("sum fixed 1");
+            x.bound(0, 99);
+            for (int time = 0; time < count; time++) {
+                feed(x, 0, time % 8, time, time);
+            }
+            x.barrier();
+            x.complete(0);
+            feed(x, 0, 0, 999, 1);
+            due("windows", x.windows(), 1);
+            due("gone", x.crash(), count);
+            due("they come back", x.windows(), count);
+            if (count > 0) {
+                window(x, 0, 0, 0, 1, 0, 0);
+                due("the sum of the last", x.window(count - 1, 3), x.window(count - 1, 1));
+            }
+            due("they are told again", x.step(0), count);
         }
     }
 
