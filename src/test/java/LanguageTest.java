@@ -42,6 +42,7 @@ public final class LanguageTest {
         face();
         List<Class<?>> classes = new ArrayList<>();
         collect(Streamloom.class, classes);
+        names(classes);
         sizes(classes);
         banned(source);
         lengths(source);
@@ -98,6 +99,19 @@ public final class LanguageTest {
         Constructor<?>[] constructors = type.getDeclaredConstructors();
         holds("one public constructor", constructors.length == 1 && constructors[0].getParameterCount() == 0
                 && Modifier.isPublic(constructors[0].getModifiers()));
+    }
+
+    private static void names(List<Class<?>> classes) {
+        Set<String> names = new HashSet<>();
+        for (String method : FACE) {
+            names.add(method.substring(0, method.indexOf('(')));
+        }
+        for (Class<?> type : classes) {
+            for (Method method : type.getDeclaredMethods()) {
+                holds(method + " inside bears no name of the face",
+                        type == Streamloom.class || !names.contains(method.getName()));
+            }
+        }
     }
 
     private static void sizes(List<Class<?>> classes) {
